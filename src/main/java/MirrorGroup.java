@@ -285,7 +285,7 @@ public final class MirrorGroup {
         return side == 0 ? headerOnSide0 : headerOnSide1;
     }
 
-    /** The side that is read and that is written first; the named one counts when split alone. */
+    /** The side that is read, and written first; the named one counts in a split volume alone. */
     private int sideInUse(int volume, int named) {
         int state = atHand.stateOf(volume);
         if (state == SPLIT) {
@@ -341,7 +341,7 @@ public final class MirrorGroup {
         writeFresh(volume, otherSide(side), block);
     }
 
-    // What is done in the three kinds of state.
+    // What a write and a step do, by the volume's state.
 
     private void putFresh(int volume, int first, int block) {
         int region = block / REGION_BLOCKS;
@@ -375,10 +375,9 @@ public final class MirrorGroup {
 
     /** One step of a rejoining volume. */
     private void copyNextRegion(int volume) {
-        int marks = atHand.marksOf(volume);
+        int region = atHand.lowestMarked(volume);
         int copies = 0;
-        if (marks != 0) {
-            int region = Integer.numberOfTrailingZeros(marks);
+        if (region != NONE) {
             makeSame(volume, region);
             atHand.clearRegion(volume, region);
             copies = 1;
@@ -500,6 +499,15 @@ public final class MirrorGroup {
 
         boolean isMarked(int volume, int region) {
             return (marksOf(volume) >> region & 1) != 0;
+        }
+
+        int lowestMarked(int volume) {
+            for (int region = 0; region < REGIONS; region++) {
+                if (isMarked(volume, region)) {
+                    return region;
+                }
+            }
+            return NONE;
         }
 
         void mark(int volume, int side, int region) {

@@ -592,9 +592,12 @@ public final class PromiseTest {
         Check.due("17 start while power is on", group.copied(), 0);
 
         MirrorGroup cut = rejoining(1);
-        cut.cutAfter(3);
+        cut.cutAfter(5);
         Check.dueThrow("17 run is cut", Check.STATE, () -> cut.run(0));
         Check.due("17 the step before counts", cut.copied(), 1);
+        cut.cutAfter(0);
+        Check.dueThrow("17 start is cut", Check.STATE, () -> cut.start());
+        Check.due("17 since a start that was cut", cut.copied(), 0);
     }
 
     private static void promise18Writes() {
