@@ -12,6 +12,7 @@ final class Check {
 
     private static int made = 0;
     private static int wrong = 0;
+    private static String within = "";
 
     private Check() {
     }
@@ -19,16 +20,14 @@ final class Check {
     static void due(String what, long got, long want) {
         made++;
         if (got != want) {
-            wrong++;
-            System.out.println(what + ": got " + got + ", due is " + want);
+            tell(what + ": got " + got + ", due is " + want);
         }
     }
 
     static void dueText(String what, String got, String want) {
         made++;
         if (!got.equals(want)) {
-            wrong++;
-            System.out.println(what + ": got " + got + ", due is " + want);
+            tell(what + ": got " + got + ", due is " + want);
         }
     }
 
@@ -43,6 +42,35 @@ final class Check {
             return e.getClass().getSimpleName();
         }
         return NOTHING;
+    }
+
+    /** What is wrong within a test is told with the test's name; one that checks nothing is wrong. */
+    static void test(String name, Runnable body) {
+        int before = made;
+        within = name + ": ";
+        try {
+            body.run();
+        } catch (RuntimeException e) {
+            tell("throws " + e + " at " + e.getStackTrace()[0]);
+        }
+        if (made == before) {
+            tell("checks nothing");
+        }
+        within = "";
+    }
+
+    private static void tell(String text) {
+        wrong++;
+        System.out.println(within + text + place());
+    }
+
+    /** The line of the sentence's test from which this is told. */
+    private static String place() {
+        return StackWalker.getInstance().walk(frames -> frames
+                .filter(frame -> frame.getClassName().endsWith("Sentences"))
+                .findFirst()
+                .map(frame -> " (" + frame.getFileName() + ":" + frame.getLineNumber() + ")")
+                .orElse(""));
     }
 
     static int wrongSoFar() {

@@ -70,7 +70,8 @@ public final class ModelTest {
         int word = pick(4);
         int v = dice.nextInt(3);
         String at = volume + ", " + side + ", " + block;
-        if (group.power() == 0 && dice.nextInt(3) == 0) {
+        // The model is asked here, as each call of the group is one of its 512.
+        if (model.power() == 0 && dice.nextInt(3) == 0) {
             same("start()", group::start, model::start);
             return;
         }
@@ -109,7 +110,7 @@ public final class ModelTest {
                     () -> { model.rejoin(volume, side); return 0; });
             case 3 -> same("run(" + volume + ")", () -> group.run(volume), () -> model.run(volume));
             default -> {
-                if (group.volumes() < volumes || volumes == 6) {
+                if (model.volumes() < volumes || volumes == 6) {
                     same("makeVolume()", group::makeVolume, model::makeVolume);
                 }
             }
