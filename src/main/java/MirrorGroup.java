@@ -88,8 +88,9 @@ public final class MirrorGroup {
 
     public int split() throws IllegalStateException {
         requirePower();
+        int count = atHand.volumeCount();
         int found = 0;
-        for (int volume = 0; volume < atHand.volumeCount(); volume++) {
+        for (int volume = 0; volume < count; volume++) {
             if (atHand.stateOf(volume) == JOINED) {
                 atHand.setState(volume, SPLIT);
                 atHand.clearMaps(volume);
